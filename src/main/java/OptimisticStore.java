@@ -684,11 +684,11 @@ public final class OptimisticStore {
         }
 
         boolean hasRecorded(int key) {
-            return (recorded & 1 << key) != 0;
+            return (recorded & (1 << key)) != 0;
         }
 
         boolean hasWritten(int key) {
-            return (written & 1 << key) != 0;
+            return (written & (1 << key)) != 0;
         }
 
         void keep(Operation operation, int clockNow, int result) {
@@ -811,7 +811,7 @@ public final class OptimisticStore {
 
         int latestWriter(int key) {
             for (int commit = latest; commit > 0; commit--) {
-                if ((writtenBy(commit) & 1 << key) != 0) {
+                if ((writtenBy(commit) & (1 << key)) != 0) {
                     return commit;
                 }
             }

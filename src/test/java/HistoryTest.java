@@ -1,9 +1,11 @@
+import java.lang.reflect.Field;
+
 /** Promises 13, 27 to 34 and 37 to 39: the commits, their dependencies, rewinding, and the counts. */
 public final class HistoryTest {
     private static final Check CHECK = new Check();
     private static final int ABSENT = OptimisticStore.ABSENT;
 
-    public static void main(String[] args) {
+    public static void main(String[] args) throws ReflectiveOperationException {
         values();
         wrongNumbers();
         readDependency();
@@ -11,6 +13,7 @@ public final class HistoryTest {
         chains();
         sixtyLinks();
         serialFaults();
+        serialFaultsOfTamperedStores();
         rewinding();
         rewindingWrongly();
         rewindAndRetry();
@@ -174,6 +177,47 @@ public final class HistoryTest {
             Check.run(x, "w0=1;w1=1;w2=1");
             CHECK.same("no faults", x.serialFaults(), 0);
         }
+    }
+
+    /**
+     * No run of calls comes to a fault, so the stores that the commits found are changed from outside: row c is
+     * the store directly before commit c + 1.
+     */
+    private static void serialFaultsOfTamperedStores() throws ReflectiveOperationException {
+        OptimisticStore x = new OptimisticStore();
+        Check.run(x, "r0;w9=1");
+        Check.run(x, "s0-3");
+        Check.run(x, "a0+1");
+        Check.run(x, "w0=5;r0;d0;a0+6");
+        x.scan(x.begin(), 0, 3, 5);
+        x.commit(4);
+        CHECK.same("no faults yet", x.serialFaults(), 0);
+        int[][] stores = storesOf(x);
+        stores[0][1] = 7;
+        stores[0][9] = 2;
+        stores[2][0] = 0;
+        stores[3][0] = 900;
+        stores[4][1] = 4;
+        stores[4][4] = 9;
+        CHECK.same("changes that no result shows", x.serialFaults(), 0);
+        stores[2][0] = 999;
+        CHECK.same("an add", x.serialFaults(), 1);
+        stores[0][0] = 0;
+        CHECK.same("a read", x.serialFaults(), 2);
+        stores[1][3] = -1;
+        CHECK.same("a sum", x.serialFaults(), 3);
+        stores[4][3] = 5;
+        CHECK.same("a scan", x.serialFaults(), 4);
+        x.rewind(2);
+        CHECK.same("only of the committed ones", x.serialFaults(), 2);
+    }
+
+    private static int[][] storesOf(OptimisticStore x) throws ReflectiveOperationException {
+        Field history = OptimisticStore.class.getDeclaredField("history");
+        history.setAccessible(true);
+        Field stores = history.getType().getDeclaredField("stores");
+        stores.setAccessible(true);
+        return (int[][]) stores.get(history.get(x));
     }
 
     private static void rewinding() {
