@@ -212,7 +212,7 @@ public final class HistoryTest {
         CHECK.same("only of the committed ones", x.serialFaults(), 2);
     }
 
-    private static int[][] storesOf(OptimisticStore x) throws ReflectiveOperationException {
+    static int[][] storesOf(OptimisticStore x) throws ReflectiveOperationException {
         Field history = OptimisticStore.class.getDeclaredField("history");
         history.setAccessible(true);
         Field stores = history.getType().getDeclaredField("stores");
