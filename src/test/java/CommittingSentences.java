@@ -116,6 +116,14 @@ final class CommittingSentences {
         x.write(5, 31, 1);
         x.abort(0);
         s.same("with active ones only", x.rivals(5), 0);
+        OptimisticStore full = Stores.active(2);
+        for (int count = 0; count < 24; count++) {
+            full.sum(0, count, count);
+        }
+        full.write(1, 24, 1);
+        s.same("24 predicates, none of them touched", full.rivals(1), 0);
+        full.write(1, 23, 1);
+        s.same("24 predicates, the last one touched", full.rivals(1), 1);
     }
 
     private void staleness() {
@@ -502,5 +510,20 @@ final class CommittingSentences {
         backward.begin();
         backward.read(0, 0);
         s.same("with backward validation", Check.run(backward, "w0=1") + " " + backward.state(0), "1 0");
+        for (int rule = 0; rule <= 2; rule++) {
+            s.same("with 80 transactions, rule " + rule, lastOfEighty(rule, 5), "1 0");
+            s.same("with 80 transactions and a rival, rule " + rule, lastOfEighty(rule, 6), rule == 0 ? "-2 0" : "1 2");
+        }
+    }
+
+    /** The answer of the 80th transaction's commit, which writes key 6, and the state of a reader of another key. */
+    private static String lastOfEighty(int rule, int readKey) {
+        OptimisticStore x = Stores.aborted(78);
+        x.configure(1, rule, 5);
+        x.begin();
+        x.read(78, readKey);
+        x.begin();
+        x.write(79, 6, 1);
+        return x.commit(79) + " " + x.state(78);
     }
 }

@@ -127,8 +127,8 @@ final class HistorySentences {
         s.says("`later`: the number of a greater commit");
         s.taken("one greater", () -> Stores.committed(2), x -> x.dependency(1, 2));
         s.taken("the greatest", () -> Stores.committed(60), x -> x.dependency(1, 60));
-        s.says("Returns a sum of 1 if there is a key that the transaction of the later one has recorded and of which the"
-                + " earlier one is the latest writer among all commits before the later one, 2 if both have written"
+        s.says("Returns a sum of 1 if there is a key that the transaction of the later one has recorded and of which"
+                + " the earlier one is the latest writer among all commits before the later one, 2 if both have written"
                 + " the same key, and 4 if the later one has written a key that the transaction of the earlier one has"
                 + " recorded, or touched one of its predicates.");
         partsOfADependency();
@@ -225,6 +225,14 @@ final class HistorySentences {
         Check.run(own, "w0=5;r0;a0+1;s0-0;d0;r0;a0-7;s0-31;w0=1");
         Check.run(own, "r0;w0=2;r0;a0+1");
         s.same("each sees its own writes so far", own.serialFaults(), 0);
+        OptimisticStore full = Stores.operations(24);
+        full.commit(0);
+        s.same("all of 24 operations", full.serialFaults(), 0);
+        OptimisticStore last = Stores.operations(23);
+        last.read(0, 1);
+        last.commit(0);
+        HistoryTest.storesOf(last)[0][1] = 3;
+        s.same("also the 24th", last.serialFaults(), 1);
         s.says("It has a fault if a read, scan, sum or add does not give the result that it gave when it was made.");
         for (String script : new String[] {"r0", "s0-1", "a0+1", "r1;a0+0"}) {
             OptimisticStore x = Stores.empty();

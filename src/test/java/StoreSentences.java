@@ -42,7 +42,8 @@ final class StoreSentences {
             s.same("each key has a value of its own", x.value(key), key + 1);
         }
         s.refused("key -1", Sentences.ARGUMENT, () -> Stores.active(1), y -> y.write(0, -1, 1));
-        s.refused("key 32, which would wrap to bit 0", Sentences.ARGUMENT, () -> Stores.active(1), y -> y.write(0, 32, 1));
+        s.refused("key 32, which would wrap to bit 0", Sentences.ARGUMENT, () -> Stores.active(1),
+                y -> y.write(0, 32, 1));
     }
 
     private void values() {
